@@ -21,8 +21,11 @@ public final class ContactNetwork {
     // never share a tick, so a bundle has no more bookings than there are ticks.
     private static final int MAX_HOPS = LAST_TIME;
 
-    // Far above need: ten contacts make fewer than a hundred ways without a
-    // node twice, and each costs some ten steps.
+    private static final int ALL_TICKS = MAX_CONTACTS * LAST_TIME;
+    private static final int ALL_HOPS = MAX_BUNDLES * MAX_HOPS;
+
+    // Far above need: a way without a node twice is told by the set of its
+    // contacts, so there are 1024 at most, and each takes some ten steps.
     private static final int MAX_STEPS = 1000000;
 
     private int now;
@@ -35,7 +38,7 @@ public final class ContactNetwork {
     private final int[] rate = new int[MAX_CONTACTS];
     private final int[] delay = new int[MAX_CONTACTS];
     private final boolean[] cancelled = new boolean[MAX_CONTACTS];
-    private final boolean[] taken = new boolean[MAX_CONTACTS * LAST_TIME];
+    private final boolean[] taken = new boolean[ALL_TICKS];
 
     private int bundleCount;
     private final int[] source = new int[MAX_BUNDLES];
@@ -45,8 +48,8 @@ public final class ContactNetwork {
     private final boolean[] routed = new boolean[MAX_BUNDLES];
     private final boolean[] hit = new boolean[MAX_BUNDLES];
     private final int[] hopCount = new int[MAX_BUNDLES];
-    private final int[] hopContact = new int[MAX_BUNDLES * MAX_HOPS];
-    private final int[] hopBegin = new int[MAX_BUNDLES * MAX_HOPS];
+    private final int[] hopContact = new int[ALL_HOPS];
+    private final int[] hopBegin = new int[ALL_HOPS];
 
     // The way that the search is trying: where it is before each contact, and since when.
     private final int[] wayNode = new int[MAX_ROUTE];

@@ -759,6 +759,8 @@ public final class PromiseTest {
         due("by a time", x.latest(1, 5, 20), 12);
         due("just so", x.latest(1, 5, 18), 10);
         due("too early", x.latest(1, 5, 17), LATE);
+        add(x, 3, 4, 0, 10, 1, 0);
+        due("time 0", x.latest(ends(3, 4), 10, FAR), 0);
         due("least time", x.latest(1, 5, MIN), LATE);
         send(x, 0, 1, 5, FAR);
         due("with the bookings as they are", x.latest(1, 5, 20), LATE);

@@ -57,7 +57,7 @@ public final class WildTest {
         }
     }
 
-    /** The most ways there can be: every contact but the last layer's leads on to several. */
+    /** Very many ways, and each of them is asked for at each time: two contacts from every node to the next. */
     private static void mostWays() {
         ContactNetwork x = new ContactNetwork();
         for (int k = 0; k < 10; k++) {
