@@ -341,10 +341,20 @@ public final class ModelTest {
         }
     }
 
+    private interface Call {
+        int on(ContactNetwork x);
+    }
+
     private static long seed = 1;
     private static int wrong = 0;
     private static boolean wide = false;
-    private static final List<String> calls = new ArrayList<>();
+
+    // The object under test, how many calls it has had, and the calls of the
+    // present run, by which a new object is led to where the old one is.
+    private static ContactNetwork x;
+    private static int used;
+    private static final List<Call> made = new ArrayList<>();
+    private static final List<String> texts = new ArrayList<>();
 
     // What the runs must have met, lest they test less than they seem to.
     private static int hitsSeen = 0;
@@ -358,14 +368,29 @@ public final class ModelTest {
         return (int) ((seed >>> 33) % bound);
     }
 
-    private static void due(String call, int got, int want) {
-        calls.add(call + " = " + got);
+    /** Asks the object; since it is good for 512 calls alone, a new one takes its place then. */
+    private static void due(String text, Call call, int want) {
+        if (used == 512) {
+            x = new ContactNetwork();
+            for (Call before : made) {
+                before.on(x);
+            }
+            used = made.size();
+        }
+        used++;
+        int got = call.on(x);
         if (got != want) {
             wrong++;
             if (wrong <= 3) {
-                System.out.println("after " + calls + " due is " + want);
+                System.out.println("after " + texts + ", " + text + " answered " + got + ", due is " + want);
             }
         }
+    }
+
+    private static void step(String text, Call call, int want) {
+        due(text, call, want);
+        made.add(call);
+        texts.add(text);
     }
 
     /** A number from 0 on below the bound, and now and then one outside. */
@@ -407,54 +432,57 @@ public final class ModelTest {
         return below(20) == 0 ? odd[below(odd.length)] : below(3) == 0 ? 1000 : below(115);
     }
 
-    private static void change(ContactNetwork x, Model m, int nodes) {
+    private static void addContact(Model m, int e) {
+        int s = someSpan(), t = someTerms();
+        step("contact(" + e + ", " + s + ", " + t + ")", o -> o.contact(e, s, t), m.contact(e, s, t));
+    }
+
+    private static void change(Model m, int nodes) {
         int kind = below(10);
         if (kind < 3) {
-            int e = someEnds(nodes), s = someSpan(), t = someTerms();
-            due("contact(" + e + ", " + s + ", " + t + ")", x.contact(e, s, t), m.contact(e, s, t));
+            addContact(m, someEnds(nodes));
         } else if (kind < 5) {
             int k = maybe(10);
             int hits = m.cancel(k);
             hitsSeen += Math.max(0, hits);
-            due("cancel(" + k + ")", x.cancel(k), hits);
+            step("cancel(" + k + ")", o -> o.cancel(k), hits);
         } else if (kind < 8) {
             int e = someEnds(nodes), s = someSize(), t = someTime();
-            due("send(" + e + ", " + s + ", " + t + ")", x.send(e, s, t), m.send(e, s, t));
+            step("send(" + e + ", " + s + ", " + t + ")", o -> o.send(e, s, t), m.send(e, s, t));
         } else {
             int t = below(50) == 0 ? maybe(201) : below(5);
-            due("pass(" + t + ")", x.pass(t), m.pass(t));
+            step("pass(" + t + ")", o -> o.pass(t), m.pass(t));
         }
     }
 
-    private static void ask(ContactNetwork x, Model m, int nodes) {
+    private static void ask(Model m, int nodes) {
         int e = someEnds(nodes), s = someSize(), by = someTime(), n = maybe(6);
         int kind = below(3);
         if (kind == 0) {
-            due("quote(" + e + ", " + s + ")", x.quote(e, s), m.quote(e, s));
+            step("quote(" + e + ", " + s + ")", o -> o.quote(e, s), m.quote(e, s));
         } else if (kind == 1) {
-            due("reach(" + n + ", " + s + ", " + by + ")", x.reach(n, s, by), m.reach(n, s, by));
+            step("reach(" + n + ", " + s + ", " + by + ")", o -> o.reach(n, s, by), m.reach(n, s, by));
         } else if (below(8) == 0) {
-            due("latest(" + e + ", " + s + ", " + by + ")", x.latest(e, s, by), m.latest(e, s, by));
+            step("latest(" + e + ", " + s + ", " + by + ")", o -> o.latest(e, s, by), m.latest(e, s, by));
         }
     }
 
-    private static void compareAll(ContactNetwork x, Model m) {
-        int length = calls.size();
-        due("time()", x.time(), m.now);
-        for (int k = -1; k <= 10; k++) {
-            due("booked(" + k + ")", x.booked(k), m.booked(k));
+    private static void compareAll(Model m) {
+        due("time()", ContactNetwork::time, m.now);
+        for (int number = -1; number <= 10; number++) {
+            int k = number;
+            due("booked(" + k + ")", o -> o.booked(k), m.booked(k));
         }
-        for (int b = -1; b <= 10; b++) {
-            due("state(" + b + ")", x.state(b), m.state(b));
-            due("arrival(" + b + ")", x.arrival(b), m.arrival(b));
-            due("hops(" + b + ")", x.hops(b), m.hops(b));
-            due("place(" + b + ")", x.place(b), m.place(b));
-            for (int i = -1; i <= Math.max(0, m.hops(b)); i++) {
-                due("hop(" + b + ", " + i + ")", x.hop(b, i), m.hop(b, i));
+        for (int number = -1; number <= 10; number++) {
+            int b = number;
+            due("state(" + b + ")", o -> o.state(b), m.state(b));
+            due("arrival(" + b + ")", o -> o.arrival(b), m.arrival(b));
+            due("hops(" + b + ")", o -> o.hops(b), m.hops(b));
+            due("place(" + b + ")", o -> o.place(b), m.place(b));
+            for (int place = -1; place <= Math.max(0, m.hops(b)); place++) {
+                int i = place;
+                due("hop(" + b + ", " + i + ")", o -> o.hop(b, i), m.hop(b, i));
             }
-        }
-        while (calls.size() > length) {
-            calls.remove(calls.size() - 1);
         }
         for (Bundle b : m.bundles) {
             note(b, m);
@@ -473,24 +501,24 @@ public final class ModelTest {
     }
 
     private static void run() {
-        ContactNetwork x = new ContactNetwork();
         Model m = new Model();
         int nodes = 2 + below(5);
         boolean ring = below(2) == 0;
         wide = below(2) == 0;
-        calls.clear();
+        x = new ContactNetwork();
+        used = 0;
+        made.clear();
+        texts.clear();
         for (int i = 0; i < CALLS && wrong == 0; i++) {
             // The network grows before it shrinks; as a ring, it has long routes.
             if (i < 6) {
-                int e = ring ? 6 * (i % nodes) + (i + 1) % nodes : someEnds(nodes);
-                int s = someSpan(), t = someTerms();
-                due("contact(" + e + ", " + s + ", " + t + ")", x.contact(e, s, t), m.contact(e, s, t));
+                addContact(m, ring ? 6 * (i % nodes) + (i + 1) % nodes : someEnds(nodes));
             } else if (below(3) > 0) {
-                change(x, m, nodes);
+                change(m, nodes);
             } else {
-                ask(x, m, nodes);
+                ask(m, nodes);
             }
-            compareAll(x, m);
+            compareAll(m);
         }
     }
 
