@@ -82,6 +82,7 @@ public final class BoundaryTest {
         noTickTwice();
         timeOfComingIn();
         oneToFiveContacts();
+        oneLeadsOnFromTheOther();
         contactsNotCancelled();
         readyAtTheFirstContact();
         readyAtTheNextContact();
@@ -488,6 +489,25 @@ public final class BoundaryTest {
         ContactNetwork x = new ContactNetwork();
         add(x, 0, 1, 0, 100, 1, 0);
         due("a list of none is no way to another node", x.quote(ends(1, 0), 1), NONE);
+    }
+
+    private static void oneLeadsOnFromTheOther() {
+        sentence = "the first one leads from u, every other one from the node to which the one before leads, the last one to the destination";
+        for (int gap = 0; gap < 5; gap++) {
+            ContactNetwork x = new ContactNetwork();
+            for (int node = 0; node < 5; node++) {
+                if (node == gap) {
+                    add(x, node + 1, node, 0, 100, 9, 0);
+                } else {
+                    add(x, node, node + 1, 0, 100, 9, 0);
+                }
+            }
+            for (int node = 1; node <= 5; node++) {
+                due("to " + node + ", gap after " + gap, x.quote(ends(0, node), 9), node <= gap ? node : NONE);
+            }
+            due("over the gap the other way", x.quote(ends(gap + 1, gap), 9), 1);
+            due("the rest of the way", x.reach(gap + 1, 9, 1000) >> gap + 1, (1 << 5 - gap) - 1);
+        }
     }
 
     private static void contactsNotCancelled() {
