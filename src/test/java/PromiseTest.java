@@ -73,6 +73,7 @@ public final class PromiseTest {
         quote();
         reach();
         latest();
+        readmeRun();
         System.out.println(wrong == 0 ? "all promises hold" : wrong + " answers are not as due");
         if (wrong != 0) {
             System.exit(1);
@@ -794,5 +795,26 @@ public final class PromiseTest {
         due("over two contacts", z.latest(ends(0, 2), 9, FAR), 48);
         z.cancel(0);
         due("cancelled", z.latest(ends(0, 2), 9, FAR), LATE);
+    }
+
+    /** What README.md shows must stay true. */
+    private static void readmeRun() {
+        promise = "README.md";
+        ContactNetwork net = new ContactNetwork();
+        due("contact 0", net.contact(6 * 0 + 1, 101 * 0 + 20, 10 * 3 + 2), 0);
+        due("contact 1", net.contact(6 * 1 + 2, 101 * 5 + 40, 10 * 1 + 0), 1);
+        due("quote", net.quote(6 * 0 + 2, 6), 11);
+        due("latest", net.latest(6 * 0 + 2, 6, 30), 18);
+        due("send", net.send(6 * 0 + 2, 6, 30), 0);
+        due("hops", net.hops(0), 2);
+        due("hop", net.hop(0, 1), 1005);
+        due("arrival", net.arrival(0), 11);
+        due("pass", net.pass(7), 7);
+        due("place, under way", net.place(0), 11);
+        due("cancel", net.cancel(1), 1);
+        due("state", net.state(0), 0);
+        due("place, stuck", net.place(0), 1);
+        due("contact 2", net.contact(6 * 1 + 2, 101 * 9 + 30, 10 * 6 + 4), 2);
+        due("arrival by contact 2", net.arrival(0), 14);
     }
 }
